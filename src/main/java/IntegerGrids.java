@@ -15,9 +15,9 @@ public final class IntegerGrids {
     // Keeps every answer of set apart from BAD_ARG; the document names it.
     private static final int SET_OFFSET = 100;
     private static final int NO_ROW = -1;
-    // A row's squared length is at most 3 * 81 = 243, so the shortest point's
-    // is below 244 and none of its numbers is 16 or more away from 0.
-    private static final int ABOVE_ANY_ROW = 244;
+    // A row's squared length is at most 3 * 81, so the shortest point's is not
+    // above it, and none of its numbers is 16 or more away from 0.
+    private static final int MAX_ROW_SQUARE = 243;
     private static final int REACH = 15;
     // Euclid's steps on numbers of 64 bits are fewer than 100.
     private static final int EUCLID_LIMIT = 1000;
@@ -415,7 +415,7 @@ public final class IntegerGrids {
 
     /** Finds the shortest points of the grid of the basis, and counts them. */
     private void findShortest() {
-        leastSquare = ABOVE_ANY_ROW;
+        leastSquare = MAX_ROW_SQUARE;
         leastSquarePoints = 0;
         for (int x = -REACH; x <= REACH; x++) {
             for (int y = -REACH; y <= REACH; y++) {
