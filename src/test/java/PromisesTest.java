@@ -30,7 +30,8 @@ public final class PromisesTest {
     private static void rowsAre(int promise, String when, IntegerGrids x, int... numbers) {
         due(promise, when + ": rows()", x.rows(), numbers.length / 3);
         for (int i = 0; i < numbers.length; i++) {
-            due(promise, when + ": number " + i % 3 + " of row " + i / 3, x.set(i / 3, i % 3, numbers[i]), numbers[i] + 100);
+            String call = when + ": number " + i % 3 + " of row " + i / 3;
+            due(promise, call, x.set(i / 3, i % 3, numbers[i]), numbers[i] + 100);
         }
     }
 
