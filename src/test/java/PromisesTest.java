@@ -317,6 +317,9 @@ public final class PromisesTest {
         IntegerGrids steep = grid(9, 8, 9, 8, 7, -9);
         due(13, "corner(0, 2) where step(2) is NONE", steep.corner(0, 2), -135);
         due(13, "corner(1, 2) where step(2) is NONE", steep.corner(1, 2), 153);
+        IntegerGrids small = grid(3, -1, -2);
+        due(13, "corner(0, 1) that is -1", small.corner(0, 1), -1);
+        due(13, "corner(0, 2) that is -2", small.corner(0, 2), -2);
         due(13, "corner(3, 0)", x.corner(3, 0), BAD_ARG);
         due(13, "corner(-1, 0)", x.corner(-1, 0), BAD_ARG);
         due(13, "corner(0, 3)", x.corner(0, 3), BAD_ARG);
